@@ -402,6 +402,9 @@ public final class ActsTest {
     private static void bestWithoutAnOrder() {
         CHECK.about("7 best, 8 bestAt: none");
         CircusRoad x = new CircusRoad();
+        x.rests(0, 1);
+        x.ban(3, 3, true);
+        bestIs(x, -1);
         for (int i = 0; i < 8; i++) {
             x.act(1000, i < 5 ? 512 : 0, 0);
         }
