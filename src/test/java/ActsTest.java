@@ -397,6 +397,9 @@ public final class ActsTest {
         due("bestAt(0)", x.bestAt(0), -1);
         x.act(1000, 0, 0);
         bestIs(x, 0, 0, 3, 2, 1);
+        x.act(1040, 0, 0);
+        x.rests(0, 0);
+        bestIs(x, 0, 3, 0, 1, 2, 4);
     }
 
     private static void bestWithoutAnOrder() {

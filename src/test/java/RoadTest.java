@@ -257,6 +257,12 @@ public final class RoadTest {
         x.way(0, 2, 100);
         x.town(9999, 3, 2);
         routeIs(x, 2, 9);
+        x.town(4, 9, 9);
+        x.way(2, 3, 1);
+        routeIs(x, 3, 9);
+        x.town(1, 10, 10);
+        x.way(2, 4, 1);
+        routeIs(x, 3, 9, 4, 10);
     }
 
     private static void routeAtEdges() {
