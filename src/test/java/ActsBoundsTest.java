@@ -692,6 +692,11 @@ public final class ActsBoundsTest {
         CircusRoad refused = new CircusRoad();
         refused.act(999, 0, 0);
         bestIs(refused, -1);
+        CircusRoad rules = new CircusRoad();
+        rules.rests(0, 0);
+        bestIs(rules, -1);
+        rules.ban(0, 0, true);
+        bestIs(rules, -1);
         for (int n = 1; n <= 8; n++) {
             CircusRoad x = new CircusRoad();
             for (int i = 0; i < n; i++) {

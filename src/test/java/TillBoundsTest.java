@@ -102,30 +102,33 @@ public final class TillBoundsTest {
 
     private static void elseOfAllTownsOnThatDay() {
         CHECK.about("terms 4: else of all TOWNS on that DAY");
-        for (int town = 0; town < 7; town++) {
+        for (int town = 0; town < 8; town++) {
+            int asked = (town + 1) % 8;
             CircusRoad x = withTowns(8);
-            told(x, town, 6, 9, 1);
-            told(x, town, 0, 50, 2);
-            foretold(x, 7, 6, 9, 1);
-            foretold(x, 7, 0, 50, 1);
-            told(x, (town + 1) % 7, 6, 10, 3);
-            foretold(x, 7, 6, 19, 2);
-            foretold(x, town, 6, 9, 1);
+            for (int day = 0; day < 7; day++) {
+                told(x, town, day, 9 + day, day + 1);
+            }
+            for (int day = 0; day < 7; day++) {
+                foretold(x, asked, day, 9 + day, 1);
+            }
+            told(x, (town + 2) % 8, 6, 10, 8);
+            foretold(x, asked, 6, 25, 2);
+            foretold(x, asked, 0, 9, 1);
+            foretold(x, town, 6, 15, 1);
         }
     }
 
     private static void elseOfAll() {
         CHECK.about("terms 4: else of all");
-        CircusRoad x = withTowns(8);
-        int sum = 0;
-        for (int town = 0; town < 7; town++) {
-            told(x, town, town % 6, 60 * town, town + 1);
-            sum += 60 * town;
-            foretold(x, 7, 6, 30 * town, 1);
+        for (int town = 0; town < 8; town++) {
+            for (int day = 0; day < 7; day++) {
+                CircusRoad x = withTowns(8);
+                told(x, town, day, 8, 1);
+                foretold(x, (town + 1) % 8, (day + 1) % 7, 8, 1);
+                told(x, (town + 2) % 8, (day + 2) % 7, 3, 2);
+                foretold(x, (town + 1) % 8, (day + 1) % 7, 11, 2);
+            }
         }
-        due("the sum", sum, 7 * 180);
-        told(x, 0, 0, 1, 8);
-        foretold(x, 7, 6, 1261, 8);
     }
 
     private static void withoutAny() {
