@@ -237,7 +237,7 @@ public final class ModelTest {
     /** Tents with small parts, so that ropes go slack one by another. */
     private void tents() {
         int most = 1 + below(20);
-        for (int round = 0; round < 12; round++) {
+        for (int round = 0; round < 9; round++) {
             for (int i = 0; i < 3; i++) {
                 share(below(8), below(8), below(most));
                 load(below(8), below(most * 3));
